@@ -371,6 +371,9 @@ public final class PromiseTest {
         due("11: whatever the holder's urgency", x.nextFor(2), 5);
         due("11: asking gives nothing away", x.holder(2), 0);
         due("11: as give does", x.give(0, 2), 5);
+        x.take(0, 2);
+        due("11: thread 0 as waiter", x.nextFor(2), 0);
+        due("3: thread 0 as waiter", x.give(5, 2), 0);
     }
 
     private static void promise13Running() {
@@ -416,6 +419,11 @@ public final class PromiseTest {
         for (int t = 0; t < 6; t++) {
             due("14: longest chain, waitingOn(" + t + ")", chain.waitingOn(t), behind[t]);
         }
+
+        PriorityLocks down = new PriorityLocks();
+        down.take(5, 0);
+        down.take(0, 0);
+        due("14: thread 0 as waiter", down.waitingOn(5), 1);
     }
 
     private static void promise15Lifted() {
