@@ -198,17 +198,17 @@ public final class PriorityLocks {
 
     private int mostUrgentWaiter(int l) {
         int best = NONE;
+        int bestUrgency = NONE;
         for (int t = 0; t < THREADS; t++) {
-            if (awaitedBy[t] == l && (best == NONE || goesBefore(t, best))) {
-                best = t;
+            if (awaitedBy[t] == l) {
+                int own = urgencyOf(t);
+                if (best == NONE || own > bestUrgency
+                        || (own == bestUrgency && waitNumber[t] < waitNumber[best])) {
+                    best = t;
+                    bestUrgency = own;
+                }
             }
         }
         return best;
-    }
-
-    private boolean goesBefore(int s, int t) {
-        int first = urgencyOf(s);
-        int second = urgencyOf(t);
-        return first > second || (first == second && waitNumber[s] < waitNumber[t]);
     }
 }
