@@ -442,6 +442,20 @@ public final class PromiseTest {
         due("15: the last thread", last.lifted(), 32);
     }
 
+    /** The run that README.md shows: to be changed together with it. */
+    private static void readmeRun() {
+        PriorityLocks locks = new PriorityLocks();
+        locks.setBase(0, 1);
+        locks.setBase(1, 7);
+        due("README: take(0, 3)", locks.take(0, 3), PriorityLocks.OK);
+        due("README: take(1, 3)", locks.take(1, 3), PriorityLocks.WAITS);
+        due("README: urgency(0)", locks.urgency(0), 7);
+        due("README: lifted()", locks.lifted(), 1);
+        due("README: running()", locks.running(), 0);
+        due("README: give(0, 3)", locks.give(0, 3), 1);
+        due("README: urgency(0) again", locks.urgency(0), 1);
+    }
+
     private static void constants() {
         due("OK", PriorityLocks.OK, 0);
         due("WAITS", PriorityLocks.WAITS, 1);
@@ -467,6 +481,7 @@ public final class PromiseTest {
         promise13Running();
         promise14WaitingOn();
         promise15Lifted();
+        readmeRun();
         System.out.println(wrong == 0 ? "all answers are as due" : wrong + " answers are not as due");
         if (wrong != 0) {
             System.exit(1);
